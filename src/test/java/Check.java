@@ -46,6 +46,12 @@ final class Check {
         }
     }
 
+    /** Tells whether what was told is an answer, or an exception that the document names, and no other one. */
+    static boolean isThrownByHand(String told) {
+        return !told.endsWith("Exception") || told.equals("IndexOutOfBoundsException")
+                || told.equals("IllegalArgumentException") || told.equals("IllegalStateException");
+    }
+
     static void outOfBounds(String what, Call call) {
         same(what, told(call), "IndexOutOfBoundsException");
     }

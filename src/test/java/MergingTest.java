@@ -15,21 +15,6 @@ public final class MergingTest {
         Check.end();
     }
 
-    /** A weaver with these as the versions 1, and of it 2 and 3. */
-    private static DiffWeaver three(String base, String first, String second) {
-        DiffWeaver x = new DiffWeaver();
-        Texts.version(x, 0, base.isEmpty() ? new String[0] : base.split(","));
-        for (String text : new String[] {first, second}) {
-            x.begin(1, x.versions() - 1);
-            for (int i = x.draftLines(); i > 0; i--) {
-                x.remove(0);
-            }
-            Texts.put(x, text.isEmpty() ? new String[0] : text.split(","));
-            x.commit();
-        }
-        return x;
-    }
-
     private static void base() {
         DiffWeaver x = new DiffWeaver();
         Texts.version(x, 0, "a");
@@ -58,7 +43,7 @@ public final class MergingTest {
     }
 
     private static void mergeIs(String base, String first, String second, int conflicts, String due) {
-        DiffWeaver x = three(base, first, second);
+        DiffWeaver x = Scenes.three(base, first, second);
         String what = "24: " + base + ": " + first + " and " + second;
         Check.same(what, x.merge(2, 3, 5), conflicts);
         Check.same("25: the same", x.conflicts(), conflicts);
@@ -82,7 +67,7 @@ public final class MergingTest {
         mergeIs("a,b", "a,b", "a ,b", 0, "a ,b");
         mergeIs("a,b", " a,b", "a ,b", 1, "b");
         mergeIs("a,b", " a,b", "x,b", 1, "b");
-        DiffWeaver x = three("a,b,c", "x,b,c", "a,b,y");
+        DiffWeaver x = Scenes.three("a,b,c", "x,b,c", "a,b,y");
         x.begin(1, 0);
         x.insert(0, Check.line("draft"));
         x.merge(3, 2, 5);
@@ -128,7 +113,7 @@ public final class MergingTest {
     }
 
     private static void pieces() {
-        DiffWeaver x = three("a,b,k,c", "x,k", "y,z,w,k,u,v");
+        DiffWeaver x = Scenes.three("a,b,k,c", "x,k", "y,z,w,k,u,v");
         Check.outOfBounds("26: no draft", () -> x.pieceOf(0, 0));
         x.begin(1, 0);
         Check.same("25: no merge", x.conflicts(), 0);
@@ -155,7 +140,7 @@ public final class MergingTest {
     }
 
     private static void settledIs(int how, String due) {
-        DiffWeaver x = three("k,a,b,l", "k,x,l", "k,y,z,l");
+        DiffWeaver x = Scenes.three("k,a,b,l", "k,x,l", "k,y,z,l");
         x.merge(2, 3, 0);
         Check.same("27: settle(0, " + how + ")", x.settle(0, how), 0);
         Texts.draftIs("27: " + how, x, due.split(","));
@@ -168,7 +153,7 @@ public final class MergingTest {
         settledIs(DiffWeaver.BASE, "k,a,b,l");
         settledIs(DiffWeaver.BOTH, "k,x,y,z,l");
         settledIs(DiffWeaver.TURNED, "k,y,z,x,l");
-        DiffWeaver x = three("k,a,b,l", "k,x,l", "k,y,z,l");
+        DiffWeaver x = Scenes.three("k,a,b,l", "k,x,l", "k,y,z,l");
         x.merge(2, 3, 4);
         x.settle(0, DiffWeaver.TURNED);
         x.commit();
@@ -181,7 +166,7 @@ public final class MergingTest {
     }
 
     private static void settleInAnyOrder() {
-        DiffWeaver x = three("a,k,b,l,c", "x,k,y,l,z", "u,k,v,l,w");
+        DiffWeaver x = Scenes.three("a,k,b,l,c", "x,k,y,l,z", "u,k,v,l,w");
         Check.same("24: three", x.merge(2, 3, 0), 3);
         Check.same("27: the second one", x.settle(1, DiffWeaver.BOTH), 2);
         Texts.draftIs("27: the second one", x, "k", "y", "v", "l");

@@ -60,11 +60,18 @@ public final class RoomTest {
         x.begin(0, 0);
         for (int i = 0; i < 3000; i++) {
             int turn = i % 2;
-            String told = Check.told(() -> x.lay(turn, 0));
-            Check.same("a late call", told.equals("0") || told.equals("1") || told.equals("IllegalStateException"), true);
+            late("a late lay", () -> x.lay(turn, 0));
         }
-        String told = Check.told(() -> x.commit());
-        Check.same("a late commit", told, "2");
-        Texts.versionIs("a late version", x, 2);
+        late("a late insert", () -> x.insert(0, Check.line("a")));
+        late("a late undo", () -> x.undo());
+        late("a late commit", () -> x.commit());
+        late("a late line", () -> x.lineAnew(2, 0));
+        late("a late author", () -> x.blame(2, 0));
+        late("a late version", () -> x.since(2, 0));
+    }
+
+    private static void late(String what, Check.Call call) {
+        String told = Check.told(call);
+        Check.same(what + " told " + told, Check.isThrownByHand(told), true);
     }
 }

@@ -12,9 +12,16 @@ final class Texts {
 
     /** Puts lines in behind those of the draft. */
     static void put(DiffWeaver weaver, String... lines) {
+        int place = weaver.draftLines();
         for (String line : lines) {
-            weaver.insert(weaver.draftLines(), Check.line(line));
+            weaver.insert(place, Check.line(line));
+            place++;
         }
+    }
+
+    /** The lines that stand between commas; none of an empty text. */
+    static String[] split(String lines) {
+        return lines.isEmpty() ? new String[0] : lines.split(",");
     }
 
     /** So many different lines, each with the sign ahead. */
